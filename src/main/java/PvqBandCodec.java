@@ -33,8 +33,8 @@ public final class PvqBandCodec {
     private static final int UNIFORM_BITS = 16;
     private static final int UNIFORM_LIMIT = 1 << UNIFORM_BITS;
 
-    // Range starts at 1 or more, so three shifts by a byte lift it to the floor.
-    private static final int MAX_RANGE_SHIFTS = 4;
+    // Three shifts by a byte lift even a range of 1 to the floor; the bound only makes the end plain.
+    private static final int MAX_RANGE_SHIFTS = 64;
     private static final int LONG_BITS = 63;
     // 2^(Q_MAX-1) times a squared pulse is at most 2^40, so no root passes 2^20.
     private static final int TOP_ROOT_BIT = 20;

@@ -9,6 +9,7 @@ public final class Promise03EncodeTest {
         codesTwoFrames();
         codesTheLoudestAndThenSilence();
         carries();
+        meetsTheLimitsExactly();
         measuresEnergies();
         placesPulses();
         keepsTheRest();
@@ -68,6 +69,26 @@ public final class Promise03EncodeTest {
         duePacket("a 255 waits", single(1, 0, -1), 0, 107, 215, 198, 255, 145, 4, 0);
         duePacket("carry over a 255", single(1, 4, 2), 0, 146, 0, 47, 25, 124, 44, 0);
         duePacket("two wait", single(4, 20, 5), 0, 54, 148, 32, 255, 255, 10, 152, 114, 164, 204, 0);
+    }
+
+    /** Frames, searched out, in which low or range stands on the very limit that it is compared with. */
+    private static void meetsTheLimitsExactly() {
+        PvqBandCodec low = new PvqBandCodec(6, 13, 1, 1);
+        setFrom(low, 0, 0, -16, -8, 0, 8, -8, 8, 0, 44, 44, 0, 88, -22, 66, 22, 0);
+        duePacket("low is 4294967296", low, 0, 176, 133, 204, 0, 0, 0, 6, 1, 116, 200, 168);
+        PvqBandCodec below = new PvqBandCodec(3, 15, 1, 1);
+        setFrom(below, 0, 0, -419, 0, 0, 0, -419, 419, 0, 4, 4, 24, -8, 4, -8, 8, 0);
+        duePacket("low is 4278190079", below, 0, 210, 219, 254, 255, 255, 255, 89, 217, 61, 220, 0);
+        PvqBandCodec range = new PvqBandCodec(1, 16, 4, 12);
+        setFrom(range, 8, 300, -100);
+        setFrom(range, 20, -70, 0, 0, 0, 5, 0, 0, 0, 0, -9, 0, 3);
+        duePacket("range is 16777216", range, 0, 50, 120, 200, 26, 240, 61, 191, 167, 21, 42, 124, 152, 0, 0);
+    }
+
+    private static void setFrom(PvqBandCodec x, int from, int... values) {
+        for (int i = 0; i < values.length; i++) {
+            x.setCoef(from + i, values[i]);
+        }
     }
 
     private static PvqBandCodec single(int k, int pos, int value) {

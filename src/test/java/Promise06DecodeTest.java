@@ -10,6 +10,7 @@ public final class Promise06DecodeTest {
         decodesTheEmptyPacket();
         decodesAllOnes();
         decodesAMadePacket();
+        meetsTheRangeLimitExactly();
         readsZerosPastTheEnd();
         keepsTheRest();
         bringsFramesBack();
@@ -64,6 +65,18 @@ public final class Promise06DecodeTest {
         x.decodeFrame();
         CHECK.due("made, again", State.decoder(x), "side 1 q 0 0 0 33" + pulses + " decoded" + silent
                 + " 55631 0 -7947 7947 15894 23842 0 -15894");
+    }
+
+    /** Before its last band this packet's range is 16777216, the least that needs no more bytes. */
+    private static void meetsTheRangeLimitExactly() {
+        int[] bytes = {0, 50, 120, 200, 26, 240, 61, 191, 167, 21, 42, 124, 152, 0, 0};
+        PvqBandCodec x = new PvqBandCodec(1, 16, 4, 12);
+        for (int i = 0; i < bytes.length; i++) {
+            x.putByte(i, bytes[i]);
+        }
+        x.decodeFrame();
+        CHECK.due("range is 16777216", State.side(x, 1), "side 1 q 0 17 13 7 pulses"
+                + " 1 0 0 0 0 0 0 0" + " 12 -4 0 0 0 0 0 0" + " 0 0 0 0 -4 0 0 0" + " 4 0 0 0 0 -6 0 2");
     }
 
     private static void readsZerosPastTheEnd() {

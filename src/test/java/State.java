@@ -63,6 +63,9 @@ final class State {
         for (int pos = 0; pos < 32; pos++) {
             x.setCoef(pos, (pos % 3 - 1) * (40 * pos + 7));
         }
+        // The first and the last of all pulses are where a step too far would show.
+        x.setCoef(0, -500);
+        x.setCoef(31, 2000);
         for (int i = 0; i < 8; i++) {
             x.setVec(i, i - 4);
         }
