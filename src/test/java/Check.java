@@ -1,6 +1,12 @@
 /** Counts and prints the answers that are not the ones due. */
 final class Check {
     private int wrong = 0;
+    private String words = "";
+
+    /** The document's words that the answers from here on are held against. */
+    void sentence(String text) {
+        words = text;
+    }
 
     void due(String call, long got, long want) {
         if (got != want) {
@@ -25,6 +31,9 @@ final class Check {
         // A broken rule shows in thousands of answers; the first ones tell enough.
         if (wrong <= 20) {
             System.out.println(fault);
+            if (!words.isEmpty()) {
+                System.out.println("  the document: " + words);
+            }
         }
     }
 
