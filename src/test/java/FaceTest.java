@@ -68,8 +68,9 @@ public final class FaceTest {
                 CHECK.due(f.getName() + " is a final number", number && Modifier.isFinal(modifiers), true);
             } else {
                 kept++;
-                boolean sealed = !f.getType().isArray() || Modifier.isFinal(modifiers);
-                CHECK.due(f.getName() + " keeps its array", sealed, true);
+                Class<?> single = f.getType().isArray() ? f.getType().getComponentType() : f.getType();
+                boolean plain = single.isPrimitive() && single != float.class && single != double.class;
+                CHECK.due(f.getName() + " is a whole number or an array of them", plain, true);
             }
             if (!Modifier.isPrivate(modifiers)) {
                 CHECK.due("the modifiers of " + f.getName(), Modifier.toString(modifiers), "public static final");

@@ -8,6 +8,7 @@ public final class RangeDecoderBoundaryTest {
     public static void main(String[] args) {
         readsUpToTheLength();
         readsZerosFarBeyondTheLength();
+        readsNoOldBytes();
         losesTheFirstByte();
         normalisesBelowTheLimitAlone();
         holdsAnEnergyValue();
@@ -62,11 +63,7 @@ public final class RangeDecoderBoundaryTest {
         }
     }
 
-    /**
-     * The read position never comes to 64: no frame reads more than 20 bytes (RangeReachTest). Nor do
-     * cells past the length that once held a byte show: only encodeFrame makes a packet shorter, and
-     * its packets are read to their end and no further.
-     */
+    /** The read position never comes to 64: no frame reads more than 20 bytes (RangeReachTest). */
     private static void readsZerosFarBeyondTheLength() {
         nextByteSentence();
         int[] k = {16, 16, 16, 16};
@@ -84,15 +81,42 @@ public final class RangeDecoderBoundaryTest {
             CHECK.due("length " + length, State.decoder(plain), State.decoder(padded));
         }
         CHECK.due("the most bytes read", most, 20);
-        PvqBandCodec once = Frames.codec(k);
-        for (int i = 0; i < 64; i++) {
-            once.putByte(i, 255);
-        }
-        int length = once.encodeFrame();
-        SpelledDecoder own = Frames.decode(CHECK, "after a full packet", once, k);
-        CHECK.due("bytes read of an encoder's packet", own.position, length);
     }
 
+    /**
+     * A full packet, then a shorter one over it. That one is read to its end and no further; but when
+     * it is edited into the start of a longer one, the decoder reads on, and the old bytes must not
+     * come back.
+     */
+    private static void readsNoOldBytes() {
+        nextByteSentence();
+        int differing = 0;
+        for (int seed = 0; seed < 1600; seed++) {
+            Numbers numbers = new Numbers(seed);
+            int count = 1 + seed % 16;
+            int[] k = {count, count, count, count};
+            PvqBandCodec x = Frames.codec(k);
+            for (int i = 0; i < 64; i++) {
+                x.putByte(i, 255);
+            }
+            int length = x.encodeFrame();
+            CHECK.due("bytes read", Frames.decode(CHECK, "unedited", x, k).position, length);
+            int[] indices = new int[4];
+            for (int b = 0; b < 4; b++) {
+                indices[b] = numbers.below(Model.size(8, count));
+            }
+            int[] longer = java.util.Arrays.copyOf(SpelledEncoder.packet(k, new int[] {60, 30, 50, 40}, indices), length);
+            Frames.put(x, longer);
+            SpelledDecoder d = Frames.decode(CHECK, "edited, " + count + " pulses", x, k);
+            int[] withOld = java.util.Arrays.copyOf(longer, 64);
+            java.util.Arrays.fill(withOld, length, 64, 255);
+            SpelledDecoder old = new SpelledDecoder(k, withOld);
+            differing += java.util.Arrays.equals(d.indices, old.indices) ? 0 : 1;
+        }
+        CHECK.due("old bytes would have brought other frames", differing > 20, true);
+    }
+
+    /** Five bytes push out whatever code was before, and of themselves the first. */
     private static void losesTheFirstByte() {
         CHECK.sentence("Start: read position 0, range = 4294967295, code = 0; then five times code = (code*256 +"
                 + " nextByte) mod 2^32.");
@@ -201,8 +225,8 @@ public final class RangeDecoderBoundaryTest {
     }
 
     /**
-     * Only 11, 13 and 15 pulses have vectors in a number that the low part does not divide, so only
-     * there can the two parts pass the end. What follows must still be found.
+     * Only 11, 13 and 15 pulses have vectors in a number that the low part's total does not divide, so
+     * only there can the two parts pass the end. What follows must still be found.
      */
     private static void holdsTheIndexOfTwoParts() {
         CHECK.sentence("x = hi*2^b + lo; if x > T-1 then x = T-1.");

@@ -38,7 +38,9 @@ public final class RangeEncoderBoundaryTest {
 
     /**
      * That the cells past the length are cleared can't be seen: packetByte answers NONE there, a
-     * decoder reads 0 there, and putByte at the length overwrites the cell that it adds.
+     * decoder reads 0 there, and putByte at the length overwrites the cell that it adds. Nor can the
+     * start of low, cache and pending be told from what a flush leaves, which is the same; nor a range
+     * of one more or less, since the first step, a 150th of it, stays 28633115.
      */
     private static void startsAnew() {
         CHECK.sentence("Start: low = 0, range = 4294967295, cache = 0, pending = 1, packet length 0, all 64 packet"
