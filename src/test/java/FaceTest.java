@@ -1,7 +1,10 @@
+import java.io.IOException;
 import java.lang.reflect.Constructor;
 import java.lang.reflect.Field;
 import java.lang.reflect.Method;
 import java.lang.reflect.Modifier;
+import java.nio.file.Files;
+import java.nio.file.Path;
 import java.util.Arrays;
 import java.util.Set;
 import java.util.TreeSet;
@@ -22,7 +25,7 @@ public final class FaceTest {
 
     private FaceTest() {}
 
-    public static void main(String[] args) throws IllegalAccessException {
+    public static void main(String[] args) throws IOException, IllegalAccessException {
         Class<?> face = PvqBandCodec.class;
         CHECK.due("the class's modifiers", Modifier.toString(face.getModifiers()), "public final");
         CHECK.due("nested classes", face.getDeclaredClasses().length, 0);
@@ -30,7 +33,19 @@ public final class FaceTest {
         constructor(face);
         methods(face);
         fields(face);
+        documentsFace();
         CHECK.finish();
+    }
+
+    /** The lists above are the document's, and the source has its very signatures. */
+    private static void documentsFace() throws IOException {
+        Document document = new Document();
+        String source = Files.readString(Path.of("src/main/java/PvqBandCodec.java"));
+        CHECK.due("the document's constants", document.constants().toString(), Arrays.toString(CONSTANTS));
+        CHECK.due("the document's signatures", document.signatures().size(), METHODS.length + 1);
+        for (String signature : document.signatures()) {
+            CHECK.due("public " + signature, source.contains("    public " + signature + " {"), true);
+        }
     }
 
     private static void constructor(Class<?> face) {

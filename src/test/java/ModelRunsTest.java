@@ -19,7 +19,7 @@ public final class ModelRunsTest {
             Model model = new Model(k);
             for (int step = 0; step < 300; step++) {
                 String call = oneCall(x, model, numbers);
-                compareAll("run " + run + " step " + step + " after " + call, x, model);
+                Compare.all(CHECK, "run " + run + " step " + step + " after " + call, x, model);
             }
         }
         CHECK.finish();
@@ -101,29 +101,5 @@ public final class ModelRunsTest {
             CHECK.due("setVec(" + at + ", " + value + ")", x.setVec(at, value), model.setVec(at, value));
         }
         return "setVec";
-    }
-
-    private static void compareAll(String when, PvqBandCodec x, Model model) {
-        CHECK.due(when + ": packetLength()", x.packetLength(), model.packetLength());
-        for (int i = -1; i <= 64; i++) {
-            CHECK.due(when + ": packetByte(" + i + ")", x.packetByte(i), model.packetByte(i));
-        }
-        for (int pos = -1; pos <= 32; pos++) {
-            CHECK.due(when + ": coefAt(" + pos + ")", x.coefAt(pos), model.coefAt(pos));
-            CHECK.due(when + ": decodedCoef(" + pos + ")", x.decodedCoef(pos), model.decodedCoef(pos));
-            for (int side = -1; side <= 2; side++) {
-                CHECK.due(when + ": pulse(" + side + ", " + pos + ")", x.pulse(side, pos), model.pulse(side, pos));
-            }
-        }
-        for (int side = -1; side <= 2; side++) {
-            for (int band = -1; band <= 4; band++) {
-                CHECK.due(when + ": energyQ(" + side + ", " + band + ")",
-                        x.energyQ(side, band), model.energyQ(side, band));
-            }
-        }
-        for (int i = -1; i <= 9; i++) {
-            CHECK.due(when + ": vecAt(" + i + ")", x.vecAt(i), model.vecAt(i));
-            CHECK.due(when + ": vecIndex(" + i + ")", x.vecIndex(i), model.vecIndex(i));
-        }
     }
 }
