@@ -143,7 +143,10 @@ public final class WideArgumentsTest {
     }
 
     private void vecUnindex(int n, int k, int idx) {
-        CHECK.due(name + ": vecUnindex(" + n + ", " + k + ", " + idx + ")",
-                x.vecUnindex(n, k, idx), model.vecUnindex(n, k, idx));
+        String call = name + ": vecUnindex(" + n + ", " + k + ", " + idx + ")";
+        CHECK.due(call, x.vecUnindex(n, k, idx), model.vecUnindex(n, k, idx));
+        for (int i = 0; i < 8; i++) {
+            CHECK.due(call + ", vecAt(" + i + ")", x.vecAt(i), model.vecAt(i));
+        }
     }
 }
